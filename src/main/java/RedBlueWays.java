@@ -696,7 +696,7 @@ public final class RedBlueWays {
         final State draft = new State();
         private final byte[] tape = new byte[TAPE];
         private int tokens;
-        private final char[] kind = new char[MOST_TOKENS];
+        private final int[] kind = new int[MOST_TOKENS];
         private final int[] at = new int[MOST_TOKENS];
         private final long[] value = new long[MOST_TOKENS];
         private String shape = "";
@@ -772,7 +772,7 @@ public final class RedBlueWays {
                     return spot < shape.length() ? failAt(SYNTAX, bytes) : 0;
                 }
                 int end = tokenEnd(next);
-                char sort = sortOf(next, end);
+                int sort = sortOf(next, end);
                 if (!goesOn(sort)) {
                     return failAt(SYNTAX, next);
                 }
@@ -809,7 +809,7 @@ public final class RedBlueWays {
         }
 
         /** A token's sort: the first letter of a word, n a NAME, i an INT, the sign itself; ? is no token. */
-        private char sortOf(int from, int end) {
+        private int sortOf(int from, int end) {
             int first = byteAt(from);
             if (first == ';') {
                 return ';';
@@ -822,7 +822,7 @@ public final class RedBlueWays {
             }
             boolean word = spells(from, end, "post") || spells(from, end, "link") || spells(from, end, "off")
                     || spells(from, end, "root") || spells(from, end, "down");
-            return word ? (char) first : 'n';
+            return word ? first : 'n';
         }
 
         private boolean spells(int from, int end, String word) {
@@ -838,7 +838,7 @@ public final class RedBlueWays {
         }
 
         /** What must follow the first word of a line; empty for what begins no line. */
-        private static String shapeOf(char sort) {
+        private static String shapeOf(int sort) {
             switch (sort) {
                 case 'p':
                 case 'o':
@@ -853,7 +853,7 @@ public final class RedBlueWays {
             }
         }
 
-        private boolean goesOn(char sort) {
+        private boolean goesOn(int sort) {
             if (spot < shape.length()) {
                 boolean due = shape.charAt(spot) == sort;
                 spot++;
@@ -864,7 +864,7 @@ public final class RedBlueWays {
             return !shape.isEmpty();
         }
 
-        private boolean fits(char sort) {
+        private boolean fits(int sort) {
             if (sort == 'p') {
                 postLines++;
             }
@@ -874,7 +874,7 @@ public final class RedBlueWays {
             return tokens < MOST_TOKENS && postLines <= POSTS && linkLines <= LINKS;
         }
 
-        private void keepToken(char sort, int from, int end) {
+        private void keepToken(int sort, int from, int end) {
             if (tokens < 0 || tokens >= MOST_TOKENS) {
                 return;
             }
@@ -893,7 +893,7 @@ public final class RedBlueWays {
             return sum;
         }
 
-        private char kindAt(int token) {
+        private int kindAt(int token) {
             return token >= 0 && token < tokens ? kind[token] : '?';
         }
 

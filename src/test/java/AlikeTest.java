@@ -295,7 +295,7 @@ public final class AlikeTest {
 
     public static void main(String[] args) {
         AlikeTest test = new AlikeTest();
-        int runs = args.length > 0 ? Integer.parseInt(args[0]) : 150;
+        int runs = args.length > 0 ? Integer.parseInt(args[0]) : 300;
         for (int i = 1; i <= runs && test.checks.allRight(); i++) {
             test.run(i);
             test.spoiltTexts(-10 * i);

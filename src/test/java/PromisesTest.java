@@ -15,6 +15,9 @@ public final class PromisesTest {
     private static final String FULL = "post a;post b;post c;post d;link a b 1;link a c 1;link a d 1;link b c 1;"
             + "link b d 1;link c d 1;";
 
+    /** A ring a c b d, in which a is not beside b. */
+    private static final String RING = "post a;post b;post c;post d;link a c 1;link c b 1;link b d 1;link d a 1;";
+
     private static final Checks CHECKS = new Checks("PromisesTest");
 
     private static void due(String call, long got, long want) {
@@ -456,6 +459,7 @@ public final class PromisesTest {
         rows("by root c", order(Checks.of(KITE), 2, 3), 2, 1, 3, 0);
         rows("order of the full", order(Checks.of(FULL), 0, 1), 0, 2, 3, 1);
         rows("order of a bridge", order(Checks.of(BOW), 3, 2), 3, 2);
+        rows("order of a ring", order(Checks.of(RING), 1, 0), 1, 3, 0, 2);
         rows("order beyond it", order(Checks.of(BOW), 3, 0), 2, 1, 0);
         RedBlueWays x = Checks.of(KITE);
         due("order: i 4", x.order(0, 2, 4), NONE);
@@ -516,6 +520,7 @@ public final class PromisesTest {
         rows("its ear 0", ear(y, 0, 3, 0), 0, 1, 2, 0);
         rows("its ear 1", ear(y, 0, 3, 1), 0, 3, 1);
         rows("its ear 2", ear(y, 0, 3, 2), 2, 3);
+        rows("ear of a ring", ear(Checks.of(RING), 1, 0, 0), 1, 2, 0, 3, 1);
         RedBlueWays z = Checks.of(BOW);
         due("ears of a bridge", z.ear(0, 3, NONE, NONE), 1);
         rows("its ear", ear(z, 0, 3, 0), 2, 3);
@@ -635,6 +640,9 @@ public final class PromisesTest {
         rows("two posts", grown(Checks.of("post a;post b;")), 1);
         rows("two posts with a link", grown(Checks.of("post a;post b;link a b 1;")));
         rows("a row of three", grown(Checks.of("post a;post b;post c;link a b 1;link b c 1;")), 2);
+        rows("a star of three", grown(Checks.of("post a;post b;post c;post d;link a b 1;link a c 1;link a d 1;")), 12, 13);
+        rows("two rows of three", grown(Checks.of("post a;post b;post c;post d;post e;post f;link a b 1;link b c 1;"
+                + "link d e 1;link e f 1;")), 3, 25);
         rows("four alone", grown(Checks.of("post a;post b;post c;post d;")), 1, 2, 13, 23);
         RedBlueWays x = Checks.of("post a;post b;post c;post d;post e;");
         for (int i = -5; i < 7; i++) {
@@ -710,6 +718,9 @@ public final class PromisesTest {
         due("count(16)", x.count(16), NONE);
         due("count(-1)", x.count(-1), NONE);
         due("no links", Checks.of("post a;post b;").count(13), 0);
+        due("two without a link are not tied", Checks.of("post a;post b;").count(12), 0);
+        due("two with a link are", Checks.of("post a;post b;link a b 1;").count(12), 1);
+        due("the root is none", Checks.of(TRIANGLE + "root b;").count(14), 5);
         RedBlueWays y = Checks.of(TRIANGLE + "off a;");
         due("the root was off when learnt", y.count(14), 0);
         due("tied without it", y.count(12), 1);
