@@ -1,21 +1,48 @@
+import java.io.IOException;
 import java.nio.charset.StandardCharsets;
+import java.nio.file.Files;
+import java.nio.file.Path;
 
 /** Counts the answers that are not as due, and puts texts on an object's tape. */
 final class Checks {
+    private static final Path DOCUMENT = Path.of("../shared/DOC.md");
+
     private final String name;
+    private final String document = words(DOCUMENT);
+    private String sentence = "";
     private int seen;
+    private int seenOfSentence;
     private int wrong;
 
     Checks(String name) {
         this.name = name;
     }
 
+    /** What follows is of these words of the document, up to the next ones. */
+    void sentence(String words) {
+        endSentence();
+        sentence = words;
+        // a notice alone: that the document's words were changed need not make the answers wrong
+        if (!document.isEmpty() && !document.contains(words)) {
+            System.out.println(name + ": the document has no such words any more: " + words);
+        }
+    }
+
+    private void endSentence() {
+        if (!sentence.isEmpty() && seenOfSentence == 0) {
+            due("answers that are looked at", 0, 1);
+        }
+        seenOfSentence = 0;
+    }
+
     void due(String call, long got, long want) {
         seen++;
+        seenOfSentence++;
         if (got != want) {
             wrong++;
             if (wrong <= 50) {
-                System.out.println(name + ": " + call + " answered " + got + ", due is " + want);
+                String of = sentence.isEmpty() ? "" : " [" + sentence + "]";
+                System.out.println(name + ": " + call + " answered " + got + ", due is " + want + of);
             }
         }
     }
@@ -24,14 +51,30 @@ final class Checks {
         due(call, got ? 1 : 0, want ? 1 : 0);
     }
 
+    void rows(String call, int[] got, int... want) {
+        due(call + " how many", got.length, want.length);
+        for (int i = 0; i < Math.min(got.length, want.length); i++) {
+            due(call + " at " + i, got[i], want[i]);
+        }
+    }
+
     boolean allRight() {
         return wrong == 0;
     }
 
     void end() {
+        endSentence();
         System.out.println(name + ": " + seen + " answers, " + wrong + " wrong");
         if (wrong != 0 || seen == 0) {
             System.exit(1);
+        }
+    }
+
+    private static String words(Path path) {
+        try {
+            return Files.readString(path).replaceAll("\\s+", " ");
+        } catch (IOException e) {
+            return "";
         }
     }
 

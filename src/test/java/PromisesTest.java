@@ -29,46 +29,7 @@ public final class PromisesTest {
     }
 
     private static void rows(String call, int[] got, int... want) {
-        due(call + " how many", got.length, want.length);
-        for (int i = 0; i < Math.min(got.length, want.length); i++) {
-            due(call + " at " + i, got[i], want[i]);
-        }
-    }
-
-    private static int[] order(RedBlueWays x, int root, int post) {
-        int[] row = new int[Math.max(0, x.order(root, post, NONE))];
-        for (int i = 0; i < row.length; i++) {
-            row[i] = x.order(root, post, i);
-        }
-        return row;
-    }
-
-    private static int[] way(RedBlueWays x, int root, int post, int colour) {
-        int[] row = new int[Math.max(0, x.way(root, post, colour, NONE))];
-        for (int i = 0; i < row.length; i++) {
-            row[i] = x.way(root, post, colour, i);
-        }
-        return row;
-    }
-
-    private static int[] ear(RedBlueWays x, int root, int post, int which) {
-        int[] row = new int[Math.max(0, x.ear(root, post, which, NONE))];
-        for (int i = 0; i < row.length; i++) {
-            row[i] = x.ear(root, post, which, i);
-        }
-        return row;
-    }
-
-    private static int[] grown(RedBlueWays x) {
-        int[] row = new int[Math.max(0, x.grow(NONE))];
-        for (int i = 0; i < row.length; i++) {
-            row[i] = x.grow(i);
-        }
-        return row;
-    }
-
-    private static int[] would(RedBlueWays x, int from, int to) {
-        return new int[] {x.would(from, to, 0), x.would(from, to, 1), x.would(from, to, 2), x.would(from, to, 3)};
+        CHECKS.rows(call, got, want);
     }
 
     private static void promise1() {
@@ -454,13 +415,13 @@ public final class PromisesTest {
     }
 
     private static void promise20() {
-        rows("order of the kite", order(Checks.of(KITE), 0, 2), 0, 3, 2, 1);
-        rows("the same of another post", order(Checks.of(KITE), 0, 1), 0, 3, 2, 1);
-        rows("by root c", order(Checks.of(KITE), 2, 3), 2, 1, 3, 0);
-        rows("order of the full", order(Checks.of(FULL), 0, 1), 0, 2, 3, 1);
-        rows("order of a bridge", order(Checks.of(BOW), 3, 2), 3, 2);
-        rows("order of a ring", order(Checks.of(RING), 1, 0), 1, 3, 0, 2);
-        rows("order beyond it", order(Checks.of(BOW), 3, 0), 2, 1, 0);
+        rows("order of the kite", Ask.order(Checks.of(KITE), 0, 2), 0, 3, 2, 1);
+        rows("the same of another post", Ask.order(Checks.of(KITE), 0, 1), 0, 3, 2, 1);
+        rows("by root c", Ask.order(Checks.of(KITE), 2, 3), 2, 1, 3, 0);
+        rows("order of the full", Ask.order(Checks.of(FULL), 0, 1), 0, 2, 3, 1);
+        rows("order of a bridge", Ask.order(Checks.of(BOW), 3, 2), 3, 2);
+        rows("order of a ring", Ask.order(Checks.of(RING), 1, 0), 1, 3, 0, 2);
+        rows("order beyond it", Ask.order(Checks.of(BOW), 3, 0), 2, 1, 0);
         RedBlueWays x = Checks.of(KITE);
         due("order: i 4", x.order(0, 2, 4), NONE);
         due("order: i -2", x.order(0, 2, -2), NONE);
@@ -479,16 +440,16 @@ public final class PromisesTest {
 
     private static void promise22and23() {
         RedBlueWays x = Checks.of(BOW);
-        rows("red way", way(x, 3, 0, RED), 1, 2, 3);
-        rows("blue way", way(x, 3, 0, BLUE), 2, 3);
-        rows("blue way of b", way(x, 3, 1, BLUE), 0, 2, 3);
+        rows("red way", Ask.way(x, 3, 0, RED), 1, 2, 3);
+        rows("blue way", Ask.way(x, 3, 0, BLUE), 2, 3);
+        rows("blue way of b", Ask.way(x, 3, 1, BLUE), 0, 2, 3);
         due("way: i 3", x.way(3, 0, RED, 3), NONE);
         due("way: i -2", x.way(3, 0, RED, -2), NONE);
         due("way: colour 2", x.way(3, 0, 2, NONE), NONE);
         due("way: colour -1", x.way(3, 0, -1, 0), NONE);
         rows("both", new int[] {x.both(3, 0), x.both(3, 1), x.both(3, 2), x.both(0, 3), x.both(0, 1)}, 4, 4, 0, 4, 0);
         x.join(3, false);
-        rows("as learnt", way(x, 3, 0, RED), 1, 2, 3);
+        rows("as learnt", Ask.way(x, 3, 0, RED), 1, 2, 3);
     }
 
     private static void promise24() {
@@ -511,28 +472,28 @@ public final class PromisesTest {
     private static void promise25() {
         RedBlueWays x = Checks.of(KITE);
         due("ears", x.ear(0, 2, NONE, 77), 2);
-        rows("ear 0", ear(x, 0, 2, 0), 0, 1, 2, 0);
-        rows("ear 1", ear(x, 0, 2, 1), 0, 3, 2);
+        rows("ear 0", Ask.ear(x, 0, 2, 0), 0, 1, 2, 0);
+        rows("ear 1", Ask.ear(x, 0, 2, 1), 0, 3, 2);
         rows("none", new int[] {x.ear(0, 2, 2, NONE), x.ear(0, 2, -2, 0), x.ear(0, 2, 0, 4), x.ear(0, 2, 0, -2)},
                 NONE, NONE, NONE, NONE);
         RedBlueWays y = Checks.of(FULL);
         due("ears of the full", y.ear(0, 3, NONE, NONE), 3);
-        rows("its ear 0", ear(y, 0, 3, 0), 0, 1, 2, 0);
-        rows("its ear 1", ear(y, 0, 3, 1), 0, 3, 1);
-        rows("its ear 2", ear(y, 0, 3, 2), 2, 3);
-        rows("ear of a ring", ear(Checks.of(RING), 1, 0, 0), 1, 2, 0, 3, 1);
+        rows("its ear 0", Ask.ear(y, 0, 3, 0), 0, 1, 2, 0);
+        rows("its ear 1", Ask.ear(y, 0, 3, 1), 0, 3, 1);
+        rows("its ear 2", Ask.ear(y, 0, 3, 2), 2, 3);
+        rows("ear of a ring", Ask.ear(Checks.of(RING), 1, 0, 0), 1, 2, 0, 3, 1);
         RedBlueWays z = Checks.of(BOW);
         due("ears of a bridge", z.ear(0, 3, NONE, NONE), 1);
-        rows("its ear", ear(z, 0, 3, 0), 2, 3);
+        rows("its ear", Ask.ear(z, 0, 3, 0), 2, 3);
     }
 
     private static void promise26() {
         RedBlueWays x = Checks.of(TRIANGLE);
-        rows("red", would(x, 0, 1), 1, 2, -2, 1);
+        rows("red", Ask.would(x, 0, 1), 1, 2, -2, 1);
         x.join(1, false);
-        rows("turns at c", would(x, 0, 1), 1, 3, 2, 1);
+        rows("turns at c", Ask.would(x, 0, 1), 1, 3, 2, 1);
         x.join(0, false);
-        rows("lost at a", would(x, 0, 1), 0, 2, 2, 0);
+        rows("lost at a", Ask.would(x, 0, 1), 0, 2, 2, 0);
         due("what 4", x.would(0, 1, 4), NONE);
         due("what -1", x.would(0, 1, -1), NONE);
         due("one and the same", x.would(1, 1, 0), NONE);
@@ -541,11 +502,11 @@ public final class PromisesTest {
         x.undo();
         x.undo();
         x.power(2, false);
-        rows("the next post is off", would(x, 0, 1), 1, 1, 0, 1);
+        rows("the next post is off", Ask.would(x, 0, 1), 1, 1, 0, 1);
         due("to one that is off", x.would(0, 2, 0), NONE);
         RedBlueWays y = Checks.of(BOW);
         y.power(5, true);
-        rows("not learnt", would(y, 4, 5), 0, 0, 4, 4);
+        rows("not learnt", Ask.would(y, 4, 5), 0, 0, 4, 4);
     }
 
     private static void promise27and28() {
@@ -635,27 +596,27 @@ public final class PromisesTest {
     }
 
     private static void promise33() {
-        rows("tied", grown(Checks.of(TRIANGLE)));
-        rows("one post", grown(Checks.of("post a;")));
-        rows("two posts", grown(Checks.of("post a;post b;")), 1);
-        rows("two posts with a link", grown(Checks.of("post a;post b;link a b 1;")));
-        rows("a row of three", grown(Checks.of("post a;post b;post c;link a b 1;link b c 1;")), 2);
-        rows("a star of three", grown(Checks.of("post a;post b;post c;post d;link a b 1;link a c 1;link a d 1;")), 12, 13);
-        rows("two rows of three", grown(Checks.of("post a;post b;post c;post d;post e;post f;link a b 1;link b c 1;"
+        rows("tied", Ask.grown(Checks.of(TRIANGLE)));
+        rows("one post", Ask.grown(Checks.of("post a;")));
+        rows("two posts", Ask.grown(Checks.of("post a;post b;")), 1);
+        rows("two posts with a link", Ask.grown(Checks.of("post a;post b;link a b 1;")));
+        rows("a row of three", Ask.grown(Checks.of("post a;post b;post c;link a b 1;link b c 1;")), 2);
+        rows("a star of three", Ask.grown(Checks.of("post a;post b;post c;post d;link a b 1;link a c 1;link a d 1;")), 12, 13);
+        rows("two rows of three", Ask.grown(Checks.of("post a;post b;post c;post d;post e;post f;link a b 1;link b c 1;"
                 + "link d e 1;link e f 1;")), 3, 25);
-        rows("four alone", grown(Checks.of("post a;post b;post c;post d;")), 1, 2, 13, 23);
+        rows("four alone", Ask.grown(Checks.of("post a;post b;post c;post d;")), 1, 2, 13, 23);
         RedBlueWays x = Checks.of("post a;post b;post c;post d;post e;");
         for (int i = -5; i < 7; i++) {
             due("five alone: grow(" + i + ")", x.grow(i), -2);
         }
         RedBlueWays y = Checks.of("post a;post b;post c;link a b 1;link b c 1;link c a 1;down a c;post d;off d;");
-        rows("a link that is down, a post that is off", grown(y), 2);
+        rows("a link that is down, a post that is off", Ask.grown(y), 2);
         due("grow(1)", y.grow(1), NONE);
         due("grow(-2)", y.grow(-2), NONE);
         y.power(3, true);
-        rows("on again", grown(y), 3, 23);
+        rows("on again", Ask.grown(y), 3, 23);
         y.join(2, true);
-        rows("tied but for d", grown(y), 3, 13);
+        rows("tied but for d", Ask.grown(y), 3, 13);
     }
 
     private static void promise34and35() {
