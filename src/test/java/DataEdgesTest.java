@@ -71,6 +71,13 @@ public final class DataEdgesTest {
         rows("in no piece with it at all", Ask.would(apart, 2, 1), 0, 0, 2, 2);
         apart.learn();
         rows("learnt", Ask.would(apart, 0, 1), 1, 1, -2, 1);
+        RedBlueWays pairs = Checks.of("post a;post b;post c;post d;link a b 1;link c d 1;");
+        rows("in another piece, with a link of its own", Ask.would(pairs, 2, 0), 0, 0, 2, 2);
+        rows("and back", Ask.would(pairs, 1, 3), 0, 0, 1, 1);
+        pairs.lay(1, 2, 1);
+        rows("in one piece now, but not learnt", Ask.would(pairs, 3, 0), 0, 0, 3, 3);
+        pairs.learn();
+        rows("in one piece, learnt", Ask.would(pairs, 3, 0), 1, 3, -2, 0);
         RedBlueWays woken = Checks.of(TWO + "off b;");
         woken.power(1, true);
         rows("to one that was off", Ask.would(woken, 0, 1), 0, 0, 0, 0);
@@ -168,12 +175,28 @@ public final class DataEdgesTest {
         due("from a to b: ab alone", woken.loss(0, 1), 1);
         due("the 16th link", sixteen().loss(6, 3), 32768);
 
+        CHECKS.sentence("LOSS (bits of LINKS); NONE: as send().");
+        RedBlueWays off = Checks.of(KITE + "off d;");
+        rows("one and the same, off", new int[] {off.loss(0, 0), off.loss(3, 0), off.loss(0, 3), off.loss(3, 3)}, NONE, NONE, NONE, NONE);
+        rows("both on", new int[] {off.loss(0, 1), off.loss(2, 0)}, 0, 0);
+
+        CHECKS.sentence("WEAK; NONE: as send().");
+        rows("one and the same, off", new int[] {off.weak(0, 0), off.weak(3, 0), off.weak(0, 3), off.weak(3, 3)}, NONE, NONE, NONE, NONE);
+        rows("both on: two links down part them", new int[] {off.weak(0, 1), off.weak(2, 0)}, 0, 0);
+        for (int no : EXTREMES) {
+            rows("weak of " + no, new int[] {off.weak(0, no), off.weak(no, 0)}, NONE, NONE);
+        }
+
         CHECKS.sentence("WEAK: of all two LINKS of the NET, how many, were both down, lose the DATA though s would still come to d.");
         due("no links", Checks.of("post a;post b;").weak(0, 1), 0);
         due("one link", Checks.of(TWO).weak(0, 1), 0);
         due("two that part s from d", Checks.of(TRIANGLE).weak(0, 1), 0);
         due("c to a: 1 with 3, 1 with 0", Checks.of(KITE).weak(2, 0), 2);
         due("lost as it is: ab with bc leaves a way", woken.weak(0, 2), 1);
+        RedBlueWays first = Checks.of("post a;post b;post c;link c a 1;link a b 1;link b c 1;off c;");
+        first.power(2, true);
+        due("lost as it is: the two others leave the first link", first.weak(0, 2), 1);
+        due("and from c", first.weak(2, 0), 1);
         due("lost, and no way as it is", down(ROW, 1).weak(0, 2), 0);
         due("one down already", down(FORK, 1, 5).weak(3, 0), 0);
     }
@@ -233,7 +256,15 @@ public final class DataEdgesTest {
 
         CHECKS.sentence("PAIR: the least COST of two ways in the NET, added, that share no POST but s and d, and no LINK.");
         RedBlueWays whole = Checks.of(RING);
-        rows("a ring", new int[] {whole.pair(0, 1), whole.pair(0, 4), whole.pair(4, 0)}, 792, 792, 792);
+        for (int from = 0; from < 8; from++) {
+            for (int to = 0; to < 8; to++) {
+                due("a ring, " + from + " to " + to, whole.pair(from, to), from == to ? NONE : 792);
+            }
+        }
+        RedBlueWays between = Checks.of("post a;post b;post c;post d;link a c 1;link a d 2;link b c 3;link b d 4;");
+        rows("two with no link itself", new int[] {between.pair(2, 3), between.pair(3, 2), between.pair(0, 1)}, 10, 10, 10);
+        rows("the link itself is down", new int[] {down(TRIANGLE, 0).pair(0, 1), down(TRIANGLE, 0).pair(1, 0)}, -2, -2);
+        due("the link itself is down, and two ways around", down(KITE, 1).pair(2, 0), 4);
         due("by the link itself and around", Checks.of(TRIANGLE).pair(0, 1), 7);
         due("all ways by one post", Checks.of("post a;post b;post c;post d;post e;link a b 1;link b c 1;link c a 1;link c d 1;"
                 + "link d e 1;link e c 1;").pair(0, 4), -2);
@@ -287,6 +318,10 @@ public final class DataEdgesTest {
         rows("four that are on, alone", Ask.grown(Checks.of(EIGHT + "off a;off c;off e;off g;")), 13, 15, 37, 57);
         rows("a star of five", Ask.grown(Checks.of("post a;post b;post c;post d;post e;post f;link a b 1;link a c 1;link a d 1;"
                 + "link a e 1;link a f 1;")), 12, 13, 14, 15);
+        rows("a star of five, from its last", Ask.grown(Checks.of("post a;post b;post c;post d;post e;post f;link f a 1;link f b 1;"
+                + "link f c 1;link f d 1;link f e 1;")), 1, 2, 3, 4);
+        rows("a tree of five ends, none of its posts with more than three links", Ask.grown(Checks.of(EIGHT + "link a f 1;link b f 1;"
+                + "link f g 1;link c g 1;link g h 1;link d h 1;link e h 1;")), 1, 3, 24);
         rows("a link that is down may be laid anew", Ask.grown(down(RING, 0)), 1);
         rows("though there are 16 links", Ask.grown(sixteen()), 6);
         rows("two rings of four", Ask.grown(Checks.of(EIGHT + "link a b 1;link b c 1;link c d 1;link d a 1;link e f 1;link f g 1;"

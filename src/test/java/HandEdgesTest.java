@@ -444,11 +444,45 @@ public final class HandEdgesTest {
         due("it has answered", sum == Integer.MIN_VALUE, false);
     }
 
+    private static RedBlueWays asked(boolean asked) {
+        RedBlueWays x = lived();
+        if (asked) {
+            Ask.all(x);
+        }
+        return x;
+    }
+
+    /** What was asked for before is nothing to what is answered behind a thing done, undone, restored or read. */
+    private static void askedBefore() {
+        RedBlueWays row = Checks.of("post a;post b;post c;link a b 1;link b c 1;");
+        rows("a row", new int[] {row.count(12), row.bridges(0), row.cuts(0), row.grow(NONE)}, 0, 3, 2, 1);
+        due("lay", row.lay(2, 0, 1), 2);
+        rows("a triangle", new int[] {row.count(12), row.bridges(0), row.cuts(0), row.grow(NONE), row.block(0, 0)}, 1, 0, 0, 0, 7);
+        for (int i = 0; i < THINGS.length - 1; i++) {
+            RedBlueWays x = asked(true);
+            RedBlueWays y = asked(false);
+            due("thing " + i, THINGS[i].of(x), THINGS[i].of(y));
+            rows("behind thing " + i, Ask.all(x), Ask.all(y));
+            RedBlueWays z = asked(false);
+            THINGS[i].of(z);
+            due("undo", x.undo(), z.undo());
+            rows("behind its undoing", Ask.all(x), Ask.all(z));
+            RedBlueWays w = asked(false);
+            due("restore", x.restore(1), w.restore(1));
+            rows("behind restoring", Ask.all(x), Ask.all(w));
+            due("read behind the bytes that were on the tape", Checks.read(x, " a;post b;"), 0);
+            rows("behind reading", Ask.all(x), Ask.all(Checks.of("post a;post b;")));
+            due("read", Checks.read(x, TRIANGLE), 0);
+            rows("behind reading", Ask.all(x), Ask.all(Checks.of(TRIANGLE)));
+        }
+    }
+
     private static void askings() {
         CHECKS.sentence("Nothing is promised beyond the answers and state changes described above");
         RedBlueWays x = lived();
         anyNumbers(x);
         rows("asking changes nothing", Ask.all(x), Ask.all(lived()));
+        askedBefore();
         anyNumbers(new RedBlueWays());
         anyNumbers(full());
         anyNumbers(Checks.of(TRIANGLE + "off a;off b;off c;"));

@@ -201,6 +201,13 @@ public final class NetEdgesTest {
         noneAt(x, 3, 0);
         noneAt(x, 0, 3);
         due("learnt", x.head(4, 5), 4);
+
+        CHECKS.sentence("LAST by a root; NONE: as head().");
+        rows("of two", new int[] {x.last(4, 5), x.last(5, 4)}, 5, 4);
+        rows("one and the same, off, not of one piece", new int[] {x.last(4, 4), x.last(0, 3), x.last(0, 4)}, NONE, NONE, NONE);
+        for (int no : NO_POSTS) {
+            rows("last of " + no, new int[] {x.last(0, no), x.last(no, 0), x.last(no, no)}, NONE, NONE, NONE);
+        }
     }
 
     /** All that is of a post by a root is NONE, whatever else is asked for. */
@@ -370,6 +377,12 @@ public final class NetEdgesTest {
         rows("ear 0", Ask.ear(far, 0, 1, 0), 0, 1, 2, 0);
         rows("not d e a, which is shorter", Ask.ear(far, 0, 1, 1), 0, 3, 5, 6, 2);
         rows("ear 2", Ask.ear(far, 0, 1, 2), 0, 4, 3);
+        RedBlueWays by = Checks.of(EIGHT + "link a f 1;link f g 1;link g a 1;link f b 1;link b d 1;link b e 1;link d f 1;link e c 1;"
+                + "link c h 1;link h g 1;link f h 1;");
+        due("ears", by.ear(0, 3, NONE, NONE), 4);
+        rows("b e c h g, not b d and by f, where it began", Ask.ear(by, 0, 3, 1), 5, 1, 4, 2, 7, 6);
+        rows("ear 2", Ask.ear(by, 0, 3, 2), 5, 3, 1);
+        rows("ear 3", Ask.ear(by, 0, 3, 3), 5, 7);
 
         CHECKS.sentence("(HEAD itself, if nothing else is IN; a BLOCK of two: it ends where it is)");
         rows("a triangle ends where it begins", Ask.ear(Checks.of(TRIANGLE), 0, 2, 0), 0, 1, 2, 0);
@@ -380,6 +393,13 @@ public final class NetEdgesTest {
         rows("two, from the other end", Ask.ear(Checks.of(TWO), 1, 0, 0), 1, 0);
         due("of two there is one", Checks.of(TWO).ear(0, 1, NONE, NONE), 1);
         rows("two of a star", Ask.ear(Checks.of(STAR), 1, 7, 0), 0, 7);
+
+        CHECKS.sentence("else it goes on by the fewest LINKS of the BLOCK (not that first one)");
+        RedBlueWays few = Checks.of("post a;post b;post c;post d;post e;post f;post g;link a b 1;link b c 1;link c d 1;link d e 1;"
+                + "link e a 1;link b f 1;link f g 1;link g a 1;");
+        rows("b f g a, not b c d e a", Ask.ear(few, 0, 3, 0), 0, 1, 5, 6, 0);
+        rows("then the others", Ask.ear(few, 0, 3, 1), 0, 4, 3, 2, 1);
+        due("ears", few.ear(0, 3, NONE, NONE), 2);
 
         CHECKS.sentence("of as few by the lowest POST first, then the next one, and so on.");
         rows("b d f a or b e c a", Ask.ear(Checks.of("post a;post b;post c;post d;post e;post f;link a b 1;link b d 1;link b e 1;"

@@ -14,6 +14,14 @@ public final class TextEdgesTest {
         CHECKS.due(call, got, want);
     }
 
+    private static void due(String call, boolean got, boolean want) {
+        CHECKS.due(call, got, want);
+    }
+
+    private static void rows(String call, int[] got, int... want) {
+        CHECKS.rows(call, got, want);
+    }
+
     /** Reads a text on a new object, and looks at its fault and its place (0 and NONE without). */
     private static RedBlueWays text(String text, int number, int place) {
         RedBlueWays x = new RedBlueWays();
@@ -84,6 +92,12 @@ public final class TextEdgesTest {
         due("back(8)", x.back(8), 7);
         due("read", x.read(), 0);
         due("posts", x.count(0), 1);
+        cut("post zzzzzzzzz;off a", 13, SYNTAX, 13);
+        cut("post zzzzzzzz;off zz", 12, SYNTAX, 12);
+        cut("postz;post y;post z;", 4, SYNTAX, 4);
+        cut("post y;posts;post z;", 11, SYNTAX, 11);
+        cut("post y;post z;post z", 14, 0, NONE);
+        cut("link y z12345;post y", 12, SYNTAX, 12);
         Checks.type(x, blanks(2000));
         due("back(2000)", x.back(2000), 0);
         due("an empty text", x.read(), 0);
@@ -99,6 +113,17 @@ public final class TextEdgesTest {
         }
         due("back(7)", x.back(7), 0);
         due("back(1)", x.back(1), NONE);
+    }
+
+    /** Twenty bytes, of which the first ones stay: what is gone is no more of the text, nor what was there before. */
+    private static void cut(String twenty, int left, int number, int place) {
+        RedBlueWays x = new RedBlueWays();
+        Checks.type(x, "zzzzzzzzzzzzzzzzzzzz".repeat(2));
+        x.back(40);
+        Checks.type(x, twenty);
+        due("bytes of " + twenty, x.back(20 - left), left);
+        due("read of the first " + left + " bytes of " + twenty, x.read(), number);
+        due("place", x.place(), place);
     }
 
     private static void readAndPlace() {
@@ -178,6 +203,19 @@ public final class TextEdgesTest {
         for (int i = 0; i < 8; i++) {
             shifted.append("post ").append("a".repeat(i)).append('b').append("a".repeat(7 - i)).append(';');
             longer.append("post ").append("a".repeat(i + 1)).append(';');
+        }
+        for (char c = 'a'; c <= 'z'; c++) {
+            StringBuilder alike = new StringBuilder();
+            for (int i = 1; i <= 8; i++) {
+                alike.append("post ").append(String.valueOf(c).repeat(i)).append(';');
+            }
+            due("names of one letter more each", good(alike.toString()).count(0), 8);
+            for (String word : WORDS) {
+                for (int i = 0; i < word.length(); i++) {
+                    String near = word.substring(0, i) + c + word.substring(i + 1);
+                    text("post " + near + ";", near.equals(word) ? SYNTAX : 0, near.equals(word) ? 5 : NONE);
+                }
+            }
         }
         due("names unlike in one letter", good(shifted.toString()).count(0), 8);
         due("names unlike in length", good(longer.toString()).count(0), 8);
@@ -533,20 +571,16 @@ public final class TextEdgesTest {
             RedBlueWays x = lived();
             due("read of " + texts[i], Checks.read(x, texts[i]), numbers[i]);
             due("the tape is empty", x.count(8), 0);
-            CHECKS.rows("behind " + texts[i], Ask.all(x), Ask.all(lived()));
+            rows("behind " + texts[i], Ask.all(x), Ask.all(lived()));
             RedBlueWays y = lived();
             for (int k = 0; k < 3; k++) {
                 due("undo", x.undo(), y.undo());
-                CHECKS.rows("undone, behind " + texts[i], Ask.all(x), Ask.all(y));
+                rows("undone, behind " + texts[i], Ask.all(x), Ask.all(y));
             }
             due("the slot", x.restore(1), true);
             y.restore(1);
-            CHECKS.rows("restored, behind " + texts[i], Ask.all(x), Ask.all(y));
+            rows("restored, behind " + texts[i], Ask.all(x), Ask.all(y));
         }
-    }
-
-    private static void due(String call, boolean got, boolean want) {
-        CHECKS.due(call, got, want);
     }
 
     private static void goodTexts() {
@@ -557,7 +591,7 @@ public final class TextEdgesTest {
             due("things that can be undone ahead of " + text, x.count(9), 6);
             due("slots ahead of it", x.count(10), 1);
             due("read", Checks.read(x, text), 0);
-            CHECKS.rows("as on a new object", Ask.all(x), Ask.all(Checks.of(text)));
+            rows("as on a new object", Ask.all(x), Ask.all(Checks.of(text)));
             due("learn", x.learn(), false);
             due("undo", x.undo(), false);
             due("things that can be undone", x.count(9), 0);
@@ -566,6 +600,11 @@ public final class TextEdgesTest {
                 due("restore", x.restore(slot), false);
             }
         }
+        RedBlueWays z = Checks.of("post a;post b;post c;link a b 1;link b c 1;down a b;down b c;off a;off b;off c;root c;");
+        due("a fault behind 'off', 'down' and 'root'", Checks.read(z, "post a;post b;link a b 1;off a;root b;down a b;off z;"), NAME);
+        due("read", Checks.read(z, "post a;post b;post c;link b a 3;link c b 4;"), 0);
+        rows("nothing of the texts ahead", new int[] {z.count(2), z.count(3), z.count(6), z.link(0, 3), z.link(1, 3), z.link(0, 2)},
+                7, 3, 0, 1, 1, 3);
         RedBlueWays y = Checks.of("post a;post b;link a b 1;off a;");
         due("learnt as it is told", y.count(5), 2);
         due("and its links", y.count(4), 0);
@@ -576,7 +615,7 @@ public final class TextEdgesTest {
         RedBlueWays x = new RedBlueWays();
         due("posts", x.count(0), 0);
         due("bytes", x.count(8), 0);
-        CHECKS.rows("as an empty text", Ask.all(x), Ask.all(Checks.of("")));
+        rows("as an empty text", Ask.all(x), Ask.all(Checks.of("")));
         tape();
         back();
         readAndPlace();
