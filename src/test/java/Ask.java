@@ -60,15 +60,29 @@ final class Ask {
         return row;
     }
 
-    /** All that a small net answers, but the bytes on the tape and place(). */
+    /** All that can be changed by hand, in 16 calls and 6 for each link that there may be. */
+    static int[] told(RedBlueWays x) {
+        int[] row = new int[16 + 6 * 16];
+        for (int what = 0; what < 16; what++) {
+            row[what] = x.count(what);
+        }
+        for (int i = 0; i < 6 * 16; i++) {
+            row[16 + i] = x.link(i / 6, i % 6);
+        }
+        return row;
+    }
+
+    /** All that a net answers, but the bytes on the tape and place(); some 150 calls with four posts, 480 with eight. */
     static int[] all(RedBlueWays x) {
         List<Integer> row = new ArrayList<>();
+        int posts = x.count(0);
+        int links = x.count(1);
         for (int what = 0; what < 16; what++) {
             if (what != 8) {
                 row.add(x.count(what));
             }
         }
-        for (int link = 0; link < x.count(1); link++) {
+        for (int link = 0; link < links; link++) {
             for (int what = 0; what < 6; what++) {
                 row.add(x.link(link, what));
             }
@@ -85,8 +99,8 @@ final class Ask {
         for (int i : grown(x)) {
             row.add(i);
         }
-        for (int a = 0; a < x.count(0); a++) {
-            for (int b = 0; b < x.count(0); b++) {
+        for (int a = 0; a < posts; a++) {
+            for (int b = 0; b < posts; b++) {
                 row.add(x.hop(a, b, 0));
                 row.add(x.hop(a, b, 1));
                 row.add(x.search(a, b, 2));

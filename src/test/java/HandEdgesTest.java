@@ -1,5 +1,6 @@
 import java.util.ArrayDeque;
 import java.util.Deque;
+import java.util.function.Supplier;
 
 /** The edges of promises 6 to 12 and 34 to 36: what is done by hand, undone, held and counted. */
 public final class HandEdgesTest {
@@ -139,11 +140,11 @@ public final class HandEdgesTest {
             }
         }
         due("no posts", new RedBlueWays().lay(0, 1, 5), NONE);
+        RedBlueWays refused = full();
+        due("a 17th", refused.lay(6, 7, 5), NONE);
+        due("another 17th", refused.lay(0, 7, 99), NONE);
+        rows("nothing happened", Ask.all(refused), Ask.all(full()));
         RedBlueWays full = full();
-        int[] before = Ask.all(full);
-        due("a 17th", full.lay(6, 7, 5), NONE);
-        due("another 17th", full.lay(0, 7, 99), NONE);
-        rows("nothing happened", Ask.all(full), before);
         due("undo of the 16th", full.undo(), true);
         due("a 16th again", full.lay(6, 7, 5), 15);
         due("a 17th again", full.lay(0, 7, 5), NONE);
@@ -170,7 +171,7 @@ public final class HandEdgesTest {
         for (int a = 0; a < 8 && number < 16; a++) {
             for (int b = a + 1; b < 7 && number < 16; b++) {
                 x.lay(a, b, 1);
-                number = x.count(1);
+                number++;
             }
         }
         return x;
@@ -300,10 +301,10 @@ public final class HandEdgesTest {
                 } else {
                     due("undo", x.undo(), !past.isEmpty());
                     now = past.isEmpty() ? now : past.removeLast();
+                    due("cost now", x.link(0, 2), now);
                 }
-                due("cost now", x.link(0, 2), now);
-                due("things that can be undone", x.count(9), past.size());
             }
+            due("things that can be undone", x.count(9), past.size());
         }
     }
 
@@ -424,32 +425,65 @@ public final class HandEdgesTest {
         rows("sent, came, hops", new int[] {y.count(7), y.count(11), y.count(15)}, 3, 2, 3);
     }
 
-    /** Every call with every mixture of common and of extreme numbers: that none throws is all that is looked at. */
-    private static void anyNumbers(RedBlueWays x) {
+    /** Every question with every mixture of common and of extreme numbers: none throws, and none changes anything. */
+    private static void anyNumbers(Supplier<RedBlueWays> made) {
         int[] any = {Integer.MIN_VALUE, -33, -2, -1, 0, 1, 3, 7, 8, 15, 16, 32, 99, Integer.MAX_VALUE};
-        int sum = 0;
+        int[] before = Ask.told(made.get());
         for (int a : any) {
-            sum += x.count(a) + x.cuts(a) + x.bridges(a) + x.load(a) + x.grow(a);
             for (int b : any) {
-                sum += x.link(a, b) + x.piece(a, b) + x.block(a, b) + x.head(a, b) + x.last(a, b) + x.both(a, b);
-                sum += x.loss(a, b) + x.weak(a, b) + x.cheap(a, b) + x.pair(a, b);
                 for (int c : any) {
-                    sum += x.order(a, b, c) + x.hop(a, b, c) + x.search(a, b, c) + x.would(a, b, c) + x.dear(a, b, c);
+                    RedBlueWays x = made.get();
+                    anyNumbers(x, a, b, c);
                     for (int d : any) {
-                        sum += x.way(a, b, c, d) + x.ear(a, b, c, d);
+                        x.way(a, b, c, d);
+                        x.ear(a, b, c, d);
                     }
+                    rows("asking changes nothing", Ask.told(x), before);
                 }
             }
         }
-        due("it has answered", sum == Integer.MIN_VALUE, false);
     }
 
-    private static RedBlueWays asked(boolean asked) {
+    private static void anyNumbers(RedBlueWays x, int a, int b, int c) {
+        x.count(a);
+        x.cuts(a);
+        x.bridges(a);
+        x.load(a);
+        x.grow(a);
+        x.link(a, b);
+        x.piece(a, b);
+        x.block(a, b);
+        x.head(a, b);
+        x.last(a, b);
+        x.both(a, b);
+        x.loss(a, b);
+        x.weak(a, b);
+        x.cheap(a, b);
+        x.pair(a, b);
+        x.order(a, b, c);
+        x.hop(a, b, c);
+        x.search(a, b, c);
+        x.would(a, b, c);
+        x.dear(a, b, c);
+    }
+
+    private static RedBlueWays behind(Call[] calls, int n) {
         RedBlueWays x = lived();
-        if (asked) {
-            Ask.all(x);
+        for (int i = 0; i < n; i++) {
+            calls[i].of(x);
         }
         return x;
+    }
+
+    /** Each of these calls, behind those ahead of it, on an object that was asked for all just then and on one that was not. */
+    private static void alike(String name, Call... calls) {
+        for (int n = 0; n < calls.length; n++) {
+            RedBlueWays asked = behind(calls, n);
+            RedBlueWays quiet = behind(calls, n);
+            Ask.all(asked);
+            due(name + ", the " + n + "-th", calls[n].of(asked), calls[n].of(quiet));
+            rows(name + ", behind the " + n + "-th", Ask.all(asked), Ask.all(quiet));
+        }
     }
 
     /** What was asked for before is nothing to what is answered behind a thing done, undone, restored or read. */
@@ -459,33 +493,21 @@ public final class HandEdgesTest {
         due("lay", row.lay(2, 0, 1), 2);
         rows("a triangle", new int[] {row.count(12), row.bridges(0), row.cuts(0), row.grow(NONE), row.block(0, 0)}, 1, 0, 0, 0, 7);
         for (int i = 0; i < THINGS.length - 1; i++) {
-            RedBlueWays x = asked(true);
-            RedBlueWays y = asked(false);
-            due("thing " + i, THINGS[i].of(x), THINGS[i].of(y));
-            rows("behind thing " + i, Ask.all(x), Ask.all(y));
-            RedBlueWays z = asked(false);
-            THINGS[i].of(z);
-            due("undo", x.undo(), z.undo());
-            rows("behind its undoing", Ask.all(x), Ask.all(z));
-            RedBlueWays w = asked(false);
-            due("restore", x.restore(1), w.restore(1));
-            rows("behind restoring", Ask.all(x), Ask.all(w));
-            due("read behind the bytes that were on the tape", Checks.read(x, " a;post b;"), 0);
-            rows("behind reading", Ask.all(x), Ask.all(Checks.of("post a;post b;")));
-            due("read", Checks.read(x, TRIANGLE), 0);
-            rows("behind reading", Ask.all(x), Ask.all(Checks.of(TRIANGLE)));
+            alike("thing " + i + ", undo, restore, read, read", THINGS[i], x -> bit(x.undo()), x -> bit(x.restore(1)),
+                    x -> Checks.read(x, " a;post b;"), x -> Checks.read(x, TRIANGLE));
         }
+        RedBlueWays y = lived();
+        due("read behind the bytes that were on the tape", Checks.read(y, " a;post b;"), 0);
+        rows("behind reading", Ask.all(y), Ask.all(Checks.of("post a;post b;")));
     }
 
     private static void askings() {
         CHECKS.sentence("Nothing is promised beyond the answers and state changes described above");
-        RedBlueWays x = lived();
-        anyNumbers(x);
-        rows("asking changes nothing", Ask.all(x), Ask.all(lived()));
         askedBefore();
-        anyNumbers(new RedBlueWays());
-        anyNumbers(full());
-        anyNumbers(Checks.of(TRIANGLE + "off a;off b;off c;"));
+        anyNumbers(HandEdgesTest::lived);
+        anyNumbers(RedBlueWays::new);
+        anyNumbers(HandEdgesTest::full);
+        anyNumbers(() -> Checks.of(TRIANGLE + "off a;off b;off c;"));
     }
 
     public static void main(String[] args) {

@@ -181,12 +181,12 @@ public final class NetEdgesTest {
         CHECKS.sentence("HEAD by a root; NONE: no such ones, one and the same, not of one PIECE, LEARNT.");
         int[][] none = {{0, 0}, {3, 3}, {4, 4}, {5, 5}, {0, 4}, {4, 0}, {4, 5}, {5, 4}, {0, 5}, {5, 0}};
         for (int[] n : none) {
-            noneAt(x, n[0], n[1]);
+            noneAt(Checks.of(BOW), n[0], n[1]);
         }
         for (int no : NO_POSTS) {
-            noneAt(x, 0, no);
-            noneAt(x, no, 0);
-            noneAt(x, no, no);
+            noneAt(Checks.of(BOW), 0, no);
+            noneAt(Checks.of(BOW), no, 0);
+            noneAt(Checks.of(BOW), no, no);
             noneAt(new RedBlueWays(), no, 0);
         }
         noneAt(new RedBlueWays(), 0, 0);

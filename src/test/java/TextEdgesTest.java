@@ -568,15 +568,19 @@ public final class TextEdgesTest {
             "post x;post y;root y;link x y 0;", "post x;post y;down x y;", "post x", "?"};
         int[] numbers = {SYNTAX, ROOM, TWICE, NAME, WRONG, WRONG, SYNTAX, SYNTAX};
         for (int i = 0; i < texts.length; i++) {
-            RedBlueWays x = lived();
-            due("read of " + texts[i], Checks.read(x, texts[i]), numbers[i]);
-            due("the tape is empty", x.count(8), 0);
-            rows("behind " + texts[i], Ask.all(x), Ask.all(lived()));
-            RedBlueWays y = lived();
-            for (int k = 0; k < 3; k++) {
-                due("undo", x.undo(), y.undo());
-                rows("undone, behind " + texts[i], Ask.all(x), Ask.all(y));
+            for (int undone = 0; undone < 4; undone++) {
+                RedBlueWays x = lived();
+                RedBlueWays y = lived();
+                due("read of " + texts[i], Checks.read(x, texts[i]), numbers[i]);
+                due("the tape is empty", x.count(8), 0);
+                for (int k = 0; k < undone; k++) {
+                    due("undo", x.undo(), y.undo());
+                }
+                rows("behind " + texts[i] + ", undone " + undone, Ask.all(x), Ask.all(y));
             }
+            RedBlueWays x = lived();
+            RedBlueWays y = lived();
+            Checks.read(x, texts[i]);
             due("the slot", x.restore(1), true);
             y.restore(1);
             rows("restored, behind " + texts[i], Ask.all(x), Ask.all(y));
