@@ -383,6 +383,12 @@ public final class NetEdgesTest {
         rows("b e c h g, not b d and by f, where it began", Ask.ear(by, 0, 3, 1), 5, 1, 4, 2, 7, 6);
         rows("ear 2", Ask.ear(by, 0, 3, 2), 5, 3, 1);
         rows("ear 3", Ask.ear(by, 0, 3, 3), 5, 7);
+        RedBlueWays lone = Checks.of(EIGHT + "link e f 1;link f b 1;link b g 1;link g c 1;link c h 1;link h d 1;link d a 1;link a e 1;"
+                + "link f g 1;link f d 1;");
+        rows("of the first one a is two links from its end", Ask.ear(lone, 5, 0, 0), 5, 1, 6, 5);
+        rows("by h, since a comes to f alone, where it began", Ask.ear(lone, 5, 0, 1), 5, 3, 7, 2, 6);
+        rows("ear 2", Ask.ear(lone, 5, 0, 2), 5, 4, 0, 3);
+        due("ears", lone.ear(5, 0, NONE, NONE), 3);
 
         CHECKS.sentence("(HEAD itself, if nothing else is IN; a BLOCK of two: it ends where it is)");
         rows("a triangle ends where it begins", Ask.ear(Checks.of(TRIANGLE), 0, 2, 0), 0, 1, 2, 0);
