@@ -96,9 +96,19 @@ public final class ReadmeTest {
         }
     }
 
+    /** The page has type as it stands above, word by word. */
+    private static void typeAsTold(String whole) throws IOException {
+        String source = Files.readString(Path.of("src/test/java/ReadmeTest.java"));
+        int begin = source.indexOf("static void type(");
+        int end = source.indexOf("\n    }\n", begin) + "\n    }\n".length();
+        String told = source.substring(begin, end).replace("\n    ", "\n");
+        CHECKS.due("the page has the way in which a text comes onto the tape", whole.contains(told), true);
+    }
+
     public static void main(String[] args) throws IOException {
         Path path = Path.of("README.md");
         names(Files.readString(path));
+        typeAsTold(Files.readString(path));
         page = Files.readAllLines(path);
         line = page.indexOf("RedBlueWays net = new RedBlueWays();") + 1;
         CHECKS.due("the page has an example", line > 0, true);
